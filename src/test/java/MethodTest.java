@@ -127,6 +127,8 @@ public final class MethodTest {
         DUE.asks(x, "10 LITTLE without any", x.lead(0, 0, 2, 0), -1, 1);
         x.called(0, 1, 1, 4);
         DUE.asks(x, "10 SINGLE as BOB", x.lead(0, 0, 2, 1), 4, 0);
+        x.called(0, 2, 0, 8);
+        DUE.asks(x, "10 its SINGLE at the first", x.lead(0, 0, 2, 0), 8, 0);
         x.called(0, 2, 2, 8);
         DUE.asks(x, "10 its SINGLE", x.lead(0, 0, 2, 2), 8, 0);
         DUE.asks(x, "10 not the BOB", x.lead(0, 0, 2, 1), 10, 0);
@@ -219,6 +221,21 @@ public final class MethodTest {
             x.cut(kind, 0);
             DUE.asks(x, "11 no CHANGES in kind " + kind, x.judge(kind), kind == PRINCIPLE ? 0 : 1, 0);
         }
+        x.bells(4);
+        x.method(TREBLE);
+        Due.lead(x, 0, "x14x14.14x14x12");
+        DUE.is("11 oftener at the last place", x.judge(0), 0);
+        x.bells(7);
+        x.method(SURPRISE);
+        Due.lead(x, 0, "x167x34x167x12");
+        DUE.is("11 the last place but one stays", x.judge(0), 1);
+        Due.lead(x, 0, "x1x34x167x12");
+        DUE.is("11 place 7 is not enough", x.judge(0), 0);
+        x.bells(12);
+        x.method(TREBLE);
+        Due.lead(x, 0, "x1x1x1x1x1x1,2");
+        DUE.is("11 up to place 12", x.judge(0), 1);
+        DUE.asks(x, "11 a method of former bells", x.judge(1), 0, 4);
         // On four bells the crossing has no place between 1 and 4 that stays.
         x.bells(4);
         x.method(SURPRISE);
@@ -341,6 +358,12 @@ public final class MethodTest {
         traces(x, "LEAD again though it is 0", LITTLE, 2, 2, PLAIN, 2, 3, PLAIN, 0, 14);
         x.judge(PRINCIPLE);
         traces(x, "judge PRINCIPLE", PRINCIPLE, 2, 1, PRINCIPLE, 0, 2, PLAIN, 2, 3);
+        Due.lead(x, TREBLE, "x");
+        x.judge(TREBLE);
+        traces(x, "LEAD again in TREBLE", TREBLE, 2, 2, PLAIN, 2, 4, PLAIN, 0, 16);
+        Due.lead(x, SURPRISE, "x");
+        x.judge(SURPRISE);
+        traces(x, "LEAD again in SURPRISE", SURPRISE, 2, 2, TREBLE, 2, 3, PLAIN, 0, 19);
     }
 
     private static void tracesWithFindings() {

@@ -115,6 +115,7 @@ public final class NotationTest {
         DUE.is("5 31st", x.method(0), -2);
         DUE.is("5 31st of no kind", x.method(7), -1);
         DUE.is("5 count", x.count(1), 30);
+        DUE.asks(x, "5 no method 30", x.judge(30), 0, 4);
         x.lead(29, 0, 0, 0);
         DUE.is("5 all MISSING, and no PARTS", x.count(6), 7);
         x.lead(28, 0, 0, 0);

@@ -1,6 +1,8 @@
 /** Promises 37 to 41: what is ALLOWED, the SEARCH, and the counts. */
 public final class SearchTest {
     private static final Due DUE = new Due("SearchTest");
+    private static final String LONGEST =
+            "1278.56x12x1.56.34x10x16x90x18x34x16xETx90x1x14x1x14x5T.10.5Tx1x14x12x10x16x34xET,14";
 
     public static void main(String[] args) {
         allow();
@@ -14,6 +16,8 @@ public final class SearchTest {
         calledOnce();
         leftAtOnce();
         partsByPlace();
+        itemsComeToAgain();
+        longest();
         voids();
         voidAndEnded();
         found();
@@ -227,6 +231,33 @@ public final class SearchTest {
         DUE.is("38 hunting by PARTS", x.search(8, 0, 0, 100), 1);
         DUE.is("40 item 7", x.found(7), 6);
         DUE.is("15 once a place", x.trace(5, 1), 8);
+    }
+
+    private static void itemsComeToAgain() {
+        RingingChamber x = with("x", "1");
+        x.allow(0, 1);
+        x.allow(1, 1);
+        DUE.is("38 behind another first item", x.search(2, 1, Due.code("1324"), 100), 1);
+        DUE.is("40 item 0", x.found(0), 3);
+        DUE.is("40 item 1", x.found(1), 3);
+        DUE.is("41 STEPS", x.count(5), 6);
+    }
+
+    /** Twelve items of 100 rows, of which the last is ROUNDS. */
+    private static void longest() {
+        RingingChamber x = new RingingChamber();
+        x.bells(12);
+        x.method(0);
+        DUE.is("6 100 CHANGES", Due.lead(x, 0, LONGEST), 100);
+        DUE.is("13 twelve leads", x.course(0), 12);
+        x.allow(0, 1);
+        DUE.is("38 1000 STEPS", x.search(12, 1200, 0, 1000), 2);
+        DUE.is("39 199 more", x.goOn(199), 2);
+        DUE.is("39 the last one", x.goOn(1), 1);
+        DUE.is("41 STEPS", x.count(5), 1200);
+        DUE.is("40 the last item", x.found(11), 0);
+        DUE.is("38 eleven", x.search(11, 0, 0, 1000), 2);
+        DUE.is("39 not round", x.goOn(100), 0);
     }
 
     private static void voids() {

@@ -1,3 +1,5 @@
+import java.util.Arrays;
+
 /** Promises 22 to 36: the touch, its PROOF, and how it is heard. */
 public final class TouchTest {
     private static final Due DUE = new Due("TouchTest");
@@ -5,6 +7,10 @@ public final class TouchTest {
         "1234", "2143", "2413", "4231", "4321", "3412", "3142", "1324", "1234"
     };
     private static final int[] HUNT_NUMBERS = {0, 2, 7, 10, 13, 16, 21, 23};
+    /** On twelve bells: 28 CHANGES, which come round with 60 leads, all their rows different. */
+    private static final String SIXTY_LEADS = "12.10.16.1T.16.34x1x10x18xET,1236";
+    /** On twelve bells: 48 CHANGES, which do not come round in 2000 rows, all of them different. */
+    private static final String ALL_DIFFERENT = "34.78x18.34.18x12x18x18x1Tx12xET.16.5Tx78x56,1236";
 
     public static void main(String[] args) {
         items();
@@ -14,9 +20,14 @@ public final class TouchTest {
         stoppingAtFindings();
         partsByItem();
         twoThousandRows();
+        nothingBeginsBehindTheLastRow();
+        manyRows();
+        lateFalseness();
+        longProof();
         clearAndRing();
         falseAt();
         proof();
+        proofOfAnotherTouch();
         forge();
         ringers();
         fits();
@@ -174,6 +185,88 @@ public final class TouchTest {
         DUE.is("34 heard", x.heard(2000), Due.code("1243"));
     }
 
+    private static void nothingBeginsBehindTheLastRow() {
+        RingingChamber x = new RingingChamber();
+        x.bells(4);
+        x.method(0);
+        x.method(0);
+        DUE.is("25 100 CHANGES", Due.lead(x, 0, "x" + "34.".repeat(98) + "34"), 100);
+        DUE.is("25 100 CHANGES", Due.lead(x, 1, "34.".repeat(99) + "34"), 100);
+        x.touch(0, 0);
+        for (int i = 0; i < 20; i++) {
+            x.touch(1, 0);
+        }
+        x.on(1000);
+        DUE.asks(x, "25 20 items", x.on(1000), 2000, 0);
+        DUE.asks(x, "25 the next does not begin", x.on(1), 2000, 0);
+        DUE.is("15 so many items begun", x.trace(0, 1), 20);
+    }
+
+    private static RingingChamber onTwelve(String prefix, String text, int items) {
+        RingingChamber x = new RingingChamber();
+        x.bells(12);
+        x.method(0);
+        x.method(0);
+        Due.lead(x, 0, text);
+        if (Due.lead(x, 1, prefix) > 0) {
+            x.touch(1, 0);
+        }
+        for (int i = 0; i < items; i++) {
+            x.touch(0, 0);
+        }
+        x.on(1000);
+        x.on(1000);
+        return x;
+    }
+
+    private static void manyRows() {
+        RingingChamber x = onTwelve("", SIXTY_LEADS, 60);
+        DUE.is("13 60 leads", x.course(0), 60);
+        DUE.is("27 round", x.round(), 1680);
+        DUE.is("28 TRUE", x.falseAt(), -1);
+        DUE.is("29 all numbers", x.proof(), 1680);
+        DUE.is("32 all numbers", x.check(), true);
+        DUE.is("36 all", x.music(0), 1680);
+    }
+
+    private static void lateFalseness() {
+        RingingChamber x = onTwelve("x", SIXTY_LEADS, 61);
+        DUE.is("28 row 1 comes again behind 60 leads", x.falseAt(), 16810001);
+        RingingChamber y = onTwelve("x1", SIXTY_LEADS, 61);
+        DUE.is("28 row 2 comes again", y.falseAt(), 16820002);
+    }
+
+    /** Every row of a long touch, told by objects that each tell a few, numbered here and sorted. */
+    private static void longProof() {
+        int[] numbers = new int[2001];
+        int[] proof = new int[2001];
+        RingingChamber x = null;
+        for (int i = 0; i < numbers.length; i++) {
+            if (i % 200 == 0) {
+                x = onTwelve("", ALL_DIFFERENT, 45);
+                DUE.is("29 2001 numbers", x.proof(), 2001);
+                DUE.is("32 2001 numbers", x.check(), true);
+            }
+            numbers[i] = number(x.at(i));
+            proof[i] = x.proofAt(i);
+        }
+        Arrays.sort(numbers);
+        DUE.is("30 the numbers, the least first", Arrays.equals(proof, numbers), true);
+        DUE.is("30 no more", x.proofAt(2001), -1);
+    }
+
+    private static int number(long row) {
+        int number = 0;
+        for (int p = 0; p < 12; p++) {
+            int less = 0;
+            for (int q = p + 1; q < 12; q++) {
+                less += (row >> 4 * q & 15) < (row >> 4 * p & 15) ? 1 : 0;
+            }
+            number = number * (12 - p) + less;
+        }
+        return number;
+    }
+
     private static void clearAndRing() {
         RingingChamber x = hunting(4);
         x.on(1000);
@@ -256,6 +349,22 @@ public final class TouchTest {
         DUE.is("32 not TRUE", x.check(), false);
     }
 
+    private static void proofOfAnotherTouch() {
+        RingingChamber x = hunting(1);
+        x.method(0);
+        Due.lead(x, 1, "12x");
+        x.on(2);
+        DUE.is("29 three rows", x.proof(), 3);
+        x.clear();
+        x.touch(1, 0);
+        x.on(2);
+        DUE.is("32 three other rows", x.check(), false);
+        DUE.is("29 of the others", x.proof(), 3);
+        DUE.is("30 their numbers", x.proofAt(1), 1);
+        DUE.is("30 their numbers", x.proofAt(2), 6);
+        DUE.is("32 theirs", x.check(), true);
+    }
+
     private static void forge() {
         RingingChamber x = hunting(4);
         DUE.is("31 none", x.forge(0, 5), -1);
@@ -270,8 +379,9 @@ public final class TouchTest {
         DUE.is("32 forged", x.check(), false);
         DUE.is("31 back", x.forge(3, 10), Integer.MIN_VALUE);
         DUE.is("32 again", x.check(), true);
-        x.forge(0, 2);
-        x.forge(1, 0);
+        DUE.is("31 the first", x.forge(0, 2), 0);
+        DUE.is("31 the second", x.forge(1, 0), 2);
+        DUE.is("31 the last", x.forge(7, 23), 23);
         DUE.is("32 the same numbers in another order", x.check(), false);
         DUE.is("29 made again", x.proof(), 8);
         DUE.is("32 made again", x.check(), true);
