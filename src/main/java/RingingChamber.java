@@ -956,7 +956,7 @@ public final class RingingChamber {
         /** The FINDING; without one the lead is in out. */
         abstract int calledOf(int i, int call, Lead out);
 
-        /** 1 or 0; below 0: less the FINDING. */
+        /** 1 or 0; or the FINDING, with its sign turned. */
         abstract int judged();
 
         final int withCall(Lead lead, int call, int place, Lead out) {

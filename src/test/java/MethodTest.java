@@ -26,6 +26,7 @@ public final class MethodTest {
         falseness();
         trace();
         tracesWithFindings();
+        fullLeads();
         DUE.close();
     }
 
@@ -387,6 +388,21 @@ public final class MethodTest {
         traces(x, "SPLICED and its PART", SPLICED, 1, 2, SURPRISE, 1, 2, PLAIN, 0, 3);
         x.course(1);
         traces(x, "LEAD of SPLICED", SPLICED, 0, 2, SPLICED, 1, 2, PLAIN, 0, 4);
+    }
+
+    private static void fullLeads() {
+        long rounds = Due.code("123456");
+        for (int kind = 0; kind < 5; kind++) {
+            RingingChamber x = with(kind, "12.".repeat(99) + "12");
+            x.called(0, 1, 99, 0);
+            DUE.asks(x, "10 the 100th", x.lead(0, 0, 0, 99), 20, 0);
+            DUE.asks(x, "10 the 100th called", x.lead(0, 0, 1, kind == PRINCIPLE ? 0 : 99), 0, 0);
+            DUE.asks(x, "10 no 101st", x.lead(0, 0, 0, 100), -1, 2);
+            DUE.asks(x, "11 of 100", x.judge(0), kind == PRINCIPLE ? 0 : 1, 0);
+            DUE.asks(x, "12 of 100", x.leadHead(0, 0), rounds, 0);
+            DUE.asks(x, "13 of 100", x.course(0), 1, 0);
+            DUE.asks(x, "14 of 100", x.falseness(0, rounds), 100, 0);
+        }
     }
 
     private static void traces(RingingChamber x, String what, int... asks) {

@@ -54,6 +54,15 @@ public final class SearchTest {
         DUE.is("37 none", x.allow(1, 0), 1);
         x.method(5);
         DUE.is("37 SPLICED", x.allow(2, 4), 2);
+        RingingChamber y = new RingingChamber();
+        for (int m = 0; m < 30; m++) {
+            y.method(m % 6);
+            DUE.is("37 all", y.allow(m, 7), 3 * (m + 1));
+        }
+        DUE.is("38 thirty methods, all MISSING", y.search(12, 0, 0, 0), 0);
+        Due.lead(y, 28, "x");
+        DUE.is("38 the last but one", y.search(2, 0, 0, 2), 1);
+        DUE.is("40 its number", y.found(1), 84);
     }
 
     private static void searchForACourse() {
