@@ -12,18 +12,16 @@ public final class ModelTest {
         "x1x1x1x1x1x2", "x1,2", "x14x14,12", "x16x16x16,12", "3.1.3,1", "x1.2x1", "1x2x", "x", "1", "12",
         "x3x4x2x3x4x5,2", "x2x2x2,1", "34x34.1x12x1x12x1,1", "x1x1x1,2", "3,1.5.1.5.1", "2.1", "x,x", "1,1"
     };
-    private static final int MOST_CALLS = 512;
     private static final int RUNS = 1500;
     private static final String SIGNS = "xxx111223344556.,.,7890ETX -\u00ff";
 
     private final Random random;
-    private final RingingChamber chamber = new RingingChamber();
+    private final Calls chamber = new Calls();
     private final ChamberModel model = new ChamberModel();
     private final List<String> calls = new ArrayList<>();
     private final int[] seen;
     private final boolean small;
     private int bells = 6;
-    private int made;
 
     private ModelTest(long seed, int[] seen) {
         random = new Random(seed);
@@ -51,7 +49,7 @@ public final class ModelTest {
     private boolean isRight(int run) {
         try {
             prepare();
-            while (made < MOST_CALLS) {
+            while (!isUsedUp()) {
                 one();
             }
             return true;
@@ -275,7 +273,7 @@ public final class ModelTest {
     }
 
     private long compare(String name, long... a) {
-        if (made >= MOST_CALLS) {
+        if (isUsedUp()) {
             return 0;
         }
         StringBuilder call = new StringBuilder(name).append('(');
@@ -283,7 +281,7 @@ public final class ModelTest {
             call.append(k == 0 ? "" : ", ").append(a[k]);
         }
         long want = model.call(name, a);
-        long got = answer(name, a);
+        long got = chamber.call(name, a);
         calls.add(call.append(") answered ").append(got).toString());
         if (got != want) {
             throw new IllegalStateException(call + ", the model says " + want);
@@ -305,61 +303,17 @@ public final class ModelTest {
     }
 
     private void compareOne(String name, long... a) {
-        if (made < MOST_CALLS && answer(name, a) != model.call(name, a)) {
-            throw new IllegalStateException(name + Arrays.toString(a) + " is " + answer(name, a)
-                    + ", the model says " + model.call(name, a));
+        if (isUsedUp()) {
+            return;
+        }
+        long got = chamber.call(name, a);
+        long want = model.call(name, a);
+        if (got != want) {
+            throw new IllegalStateException(name + Arrays.toString(a) + " is " + got + ", the model says " + want);
         }
     }
 
-    private long answer(String name, long[] a) {
-        int[] i = new int[5];
-        for (int k = 0; k < a.length; k++) {
-            i[k] = (int) a[k];
-        }
-        made++;
-        RingingChamber x = chamber;
-        switch (name) {
-            case "feed": return x.feed(i[0], i[1], i[2], i[3], i[4]);
-            case "end": return x.end(i[0]);
-            case "bells": return x.bells(i[0]);
-            case "method": return x.method(i[0]);
-            case "notation": return x.notation(i[0]);
-            case "cut": return x.cut(i[0], i[1]);
-            case "called": return x.called(i[0], i[1], i[2], i[3]);
-            case "part": return x.part(i[0], i[1]);
-            case "lead": return x.lead(i[0], i[1], i[2], i[3]);
-            case "judge": return x.judge(i[0]);
-            case "leadHead": return x.leadHead(i[0], i[1]);
-            case "course": return x.course(i[0]);
-            case "falseness": return x.falseness(i[0], a[1]);
-            case "trace": return x.trace(i[0], i[1]);
-            case "change": return x.change(a[0], i[1]);
-            case "number": return x.number(a[0]);
-            case "ofNumber": return x.ofNumber(i[0]);
-            case "product": return x.product(a[0], a[1]);
-            case "inverse": return x.inverse(a[0]);
-            case "order": return x.order(a[0]);
-            case "touch": return x.touch(i[0], i[1]);
-            case "clear": return x.clear();
-            case "ring": return x.ring();
-            case "on": return x.on(i[0]);
-            case "at": return x.at(i[0]);
-            case "round": return x.round();
-            case "falseAt": return x.falseAt();
-            case "proof": return x.proof();
-            case "proofAt": return x.proofAt(i[0]);
-            case "forge": return x.forge(i[0], i[1]);
-            case "check": return x.check() ? 1 : 0;
-            case "ringer": return x.ringer(i[0], i[1] == 1);
-            case "heard": return x.heard(i[0]);
-            case "fits": return x.fits(a[0], a[1]) ? 1 : 0;
-            case "music": return x.music(a[0]);
-            case "allow": return x.allow(i[0], i[1]);
-            case "search": return x.search(i[0], i[1], a[2], i[3]);
-            case "goOn": return x.goOn(i[0]);
-            case "found": return x.found(i[0]);
-            case "count": return x.count(i[0]);
-            default: throw new IllegalArgumentException(name);
-        }
+    private boolean isUsedUp() {
+        return chamber.made() >= Calls.MOST;
     }
 }
