@@ -29,6 +29,7 @@ public final class MethodEdgeTest {
         judgeSurprise();
         judgePrinciple();
         judgeSpliced();
+        fullLeads();
         leadHead();
         course();
         falseness();
@@ -344,6 +345,16 @@ public final class MethodEdgeTest {
                 "trace 4 2 = 1", "trace 0 2 = 1");
     }
 
+    private static void fullLeads() {
+        for (int kind = 0; kind < 5; kind++) {
+            String[] made = {"method " + kind, "text 0 " + FULL + " = 100"};
+            S.behind(made, "3 JUDGE of 100 CHANGES: " + KINDS[kind], "judge 0 = " + (kind == PRINCIPLE ? 0 : 1) + " ! 0");
+            S.behind(made, "3 the other acts of 100 CHANGES: " + KINDS[kind], "leadHead 0 0 = :123456 ! 0", "course 0 = 1 ! 0",
+                    "falseness 0 :123456 = 100 ! 0", "falseness 0 :124365 = 100 ! 0", "falseness 0 :213456 = 0 ! 0",
+                    "falseness 0 :124365 = 100 ! 0");
+        }
+    }
+
     private static void leadHead() {
         String[] made = {"method 0", "method 0", "method 5", "text 0 x1", "called 0 1 1 0", "called 0 2 0 0"};
         S.behind(made, "12 FINDING 4 is first", "leadHead 3 3 = 0 ! 4", "leadHead -1 -1 = 0 ! 4");
@@ -410,6 +421,14 @@ public final class MethodEdgeTest {
                 "trace 0 0 = 1", "leadHead 0 1 = 0 ! 1", "trace 0 0 = 3", "trace 3 1 = 2", "trace 0 1 = 2");
         S.holds("4 TRACE: JUDGE, up to the BODY with a FINDING", "method 3", "judge 0 = 0 ! 1", "trace 3 2 = 1",
                 "trace 2 2 = 1", "trace 0 2 = 1", "trace 0 0 = 1");
+        S.holds("4 TRACE: JUDGE of LITTLE, up to the BODY with a FINDING", "method 1", "judge 0 = 0 ! 1", "trace 1 2 = 1",
+                "trace 0 2 = 1", "trace 0 0 = 1");
+        S.holds("4 TRACE: SURPRISE's look at a LEAD that is MISSING", "method 3", "lead 0 0 1 0 = -1 ! 1", "trace 3 1 = 1",
+                "trace 0 0 = 1", "trace 0 1 = 0");
+        S.holds("3 TRACE: a SUPER that is 0 is no FINDING, LEAD is done again", "bells 4", "method 1", "method 2",
+                "method 3", "text 0 x", "text 1 x", "text 2 x", "judge 0 = 0 ! 0", "trace 0 0 = 2", "judge 1 = 0 ! 0",
+                "trace 0 0 = 4", "judge 2 = 0 ! 0", "trace 0 0 = 7", "trace 1 2 = 1", "trace 2 2 = 2", "trace 3 2 = 1",
+                "trace 0 2 = 3");
         S.holds("4 TRACE: a PART's FINDING", "method 0", "method 5", "part 1 0", "lead 1 0 0 0 = -1 ! 1", "trace 5 1 = 1",
                 "trace 0 1 = 1", "trace 0 0 = 1", "course 1 = 0 ! 1", "trace 5 0 = 1", "trace 0 0 = 2");
         S.holds("4 TRACE: an item's beginning", "method 0", "touch 0 0", "on 1 = 0 ! 1", "trace 0 1 = 1", "on 1 = 0 ! 0",

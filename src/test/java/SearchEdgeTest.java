@@ -10,6 +10,9 @@ public final class SearchEdgeTest {
     /** On four bells; three leads of method 0 have all 24 rows, of which the last is ROUNDS. */
     private static final String[] MINIMUS = {"bells 4", "method 0", "text 0 x1x1x1x2 = 8", "allow 0 1 = 1"};
 
+    /** On twelve bells: 100 CHANGES, which come round with twelve leads, all their rows different. */
+    private static final String TWELVE_LEADS =
+            "1278.56x12x1.56.34x10x16x90x18x34x16xETx90x1x14x1x14x5T.10.5Tx1x14x12x10x16x34xET,14";
     /** As MINIMUS, with a SPLICED method 1 and a BOB in method 0; a SEARCH is under way. */
     private static final String[] BUSY = with(MINIMUS, "method 5", "called 0 1 0 0 = 1", "search 3 0 0 5 = 2");
 
@@ -148,6 +151,9 @@ public final class SearchEdgeTest {
                 "part 2 1", "allow 2 1 = 1", "search 12 0 0 1000 = 0", "bells 6", "method 0", "method 0", "method 5", "text 0 x",
                 "text 1 1", "part 2 0", "part 2 1", "allow 2 1 = 1", "search 12 0 0 1000 = 1", "count 5 = 12", "found 0 = 6",
                 "found 11 = 6", "found 12 = -1", "search 11 0 0 1000 = 0");
+        S.holds("38 LENGTH 12, of 100 rows each", "bells 12", "method 0", "text 0 " + TWELVE_LEADS + " = 100", "allow 0 1 = 1",
+                "search 12 1200 0 1000 = 2", "goOn 199 = 2", "found 11 = -1", "goOn 1 = 1", "count 5 = 1200", "found 11 = 0",
+                "search 12 1201 0 1000 = 2", "goOn 200 = 0", "count 5 = 1200");
         for (String length : new String[] {"0", "13", "-1", "max", "min"}) {
             S.behind(MINIMUS, "38 length is not 1 .. 12: " + length, "search " + length + " 0 0 9 = -1", "goOn 1 = -1",
                     "count 5 = 0", "found 0 = -1", "trace 0 1 = 0");

@@ -245,6 +245,8 @@ public final class TouchEdgeTest {
                 "count 4 = 0", "proofAt 0 = -1");
         S.behind(HUNT, "29 a shorter one in place of a longer one", "4x touch 0 0", "on 9 = 8", "proof = 8", "ring",
                 "proof = 1", "count 4 = 1", "proofAt 1 = -1", "forge 1 0 = -1", "check = yes");
+        S.behind(HUNT, "29 the least first", "4x touch 0 0", "on 9 = 8", "proof = 8", "proofAt 0 = 0", "proofAt 1 = 2",
+                "proofAt 2 = 7", "proofAt 3 = 10", "proofAt 4 = 13", "proofAt 5 = 16", "proofAt 6 = 21", "proofAt 7 = 23");
         S.behind(HUNT, "29 no ASK", "judge 9 ! 4", "proof = 1 ! 4");
     }
 
