@@ -183,8 +183,8 @@ public final class TouchEdgeTest {
                 "on 1000 = 2000 ! 0", "at 2001 = 0", "round = -1", "falseAt = 30001");
         S.behind(made, "5 of 1000 only as many as come to 2000", "touch 0 0", "30x touch 1 0", "on 1000", "on 500 = 1500",
                 "on 1000 = 2000 ! 0", "at 2001 = 0", "music 0 = 2000", "heard 2000 = :1243", "heard 2001 = 0");
-        S.behind(made, "5 for good with row 2000, though there are more ITEMS", "touch 0 0", "20x touch 1 0", "on 1000", "on 1000 = 2000",
-                "touch 0 0", "on 9 = 2000 ! 0");
+        S.behind(made, "5 for good with row 2000, though there are more ITEMS", "touch 0 0", "20x touch 1 0",
+                "on 1000", "on 1000 = 2000", "touch 0 0", "on 9 = 2000 ! 0");
         S.behind(made, "5 behind row 2000 no item begins", "text 0 x" + "34.".repeat(98) + "34 = 100", "touch 0 0",
                 "19x touch 1 0", "touch 1 1 = 21", "on 1000", "on 1000 = 2000 ! 0", "on 1 = 2000 ! 0", "trace 0 1 = 20");
         S.behind(made, "5 ring() begins anew behind row 2000", "touch 0 0", "30x touch 1 0", "on 1000", "on 1000 = 2000",
@@ -199,7 +199,8 @@ public final class TouchEdgeTest {
         S.behind(made, "5 2000 rows, the last of them ROUNDS, are TRUE", "20x touch 0 0", "on 1000", "on 999 = 1999",
                 "round = -1", "falseAt = -1", "proof = 2000", "on 1 = 2000 ! 0", "round = 2000", "falseAt = -1", "check = yes",
                 "proof = 2000", "count 4 = 2000", "proofAt 0 = 0", "proofAt 2000 = -1", "check = yes");
-        S.behind(made, "5 2000 rows, the last of them not ROUNDS, are TRUE", "method 0", "text 1 1", "touch 1 0", "20x touch 0 0", "on 1000", "on 1000 = 2000", "round = -1",
+        S.behind(made, "5 2000 rows, the last of them not ROUNDS, are TRUE", "method 0", "text 1 1", "touch 1 0",
+                "20x touch 0 0", "on 1000", "on 1000 = 2000", "round = -1",
                 "falseAt = -1", "proof = 2001", "proofAt 2000 ! 0", "proofAt 2001 = -1", "check = yes");
         S.behind(made, "28 row 2000 is row 320", "method 0", "method 0", "text 1 " + TWO_THOUSAND, "cut 1 20 = 20",
                 "text 2 " + SIXTY_LEADS, "touch 1 0", "3x touch 0 0", "60x touch 2 0", "on 1000", "on 999 = 1999",
